@@ -41,11 +41,7 @@ public final class GameTeller {
     }
 
     public int back() {
-        if (!match.takeBack()) {
-            return NONE;
-        }
-        judge.forgetMovesBehind(match.count);
-        return match.count;
+        return match.takeBack() ? match.count : NONE;
     }
 
     public boolean depth(int d) {
@@ -225,7 +221,7 @@ public final class GameTeller {
         if (!match.addMove(bit)) {
             return false;
         }
-        judge.forgetPosition(match.count);
+        judge.forgetMove(match.count);
         return true;
     }
 
@@ -567,19 +563,15 @@ public final class GameTeller {
             examined = 0;
         }
 
-        /** A move was set anew: what was known behind it, and of it, holds no more. */
-        void forgetPosition(int n) {
+        /** Move n was set anew: what was known of it, and behind it, holds no more. */
+        void forgetMove(int n) {
             for (int d = 0; d < DEPTHS; d++) {
                 int at = n * DEPTHS + d;
                 if (at >= 0 && at < values.length) {
                     values[at] = UNKNOWN;
                 }
             }
-            forgetMovesBehind(n - 1);
-        }
-
-        void forgetMovesBehind(int n) {
-            examined = Math.min(examined, n);
+            examined = Math.min(examined, n - 1);
         }
 
         /** The value by a depth behind the first n moves. */

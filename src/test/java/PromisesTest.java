@@ -150,6 +150,10 @@ public final class PromisesTest {
             due("look(" + what + ")", teller.look(what), state[what]);
         }
         due("no stones", teller.look(40), 2);
+        GameTeller anew = new GameTeller();
+        due("value of the old game", anew.value(0, 3), 0);
+        anew.game(2, 2, 2, false, true);
+        due("value of the new game", anew.value(0, 3), -1);
     }
 
     private static void playing() {
@@ -185,6 +189,9 @@ public final class PromisesTest {
         due("four", of(4, 4, 4, false, false, 0, 1, 5, 2, 10, 3, 15).look(6), 1);
         due("three of four", of(4, 4, 4, false, false, 0, 1, 5, 2, 10, 3).look(6), 0);
         due("the gap filled", of(4, 2, 4, false, false, 0, 4, 1, 5, 3, 6, 2).look(6), 1);
+        due("the first of four filled", of(4, 2, 4, false, false, 1, 4, 2, 5, 3, 6, 0).look(6), 1);
+        due("the top of four filled", of(2, 4, 4, false, false, 0, 1, 2, 3, 4, 5, 6).look(6), 1);
+        due("the second of four filled", of(4, 2, 4, false, false, 0, 4, 3, 5, 2, 6, 1).look(6), 1);
         due("more than K", of(4, 2, 3, false, false, 0, 4, 1, 5, 3, 7, 2).look(6), 1);
         due("rows lose: player 0", of(3, 3, 3, false, true, 0, 3, 1, 4, 2).look(6), 2);
         due("rows lose: player 1", of(3, 3, 3, false, true, 0, 3, 1, 4, 8, 5).look(6), 1);
@@ -216,6 +223,11 @@ public final class PromisesTest {
         due("another move", teller.play(8), 5);
         due("found anew", teller.found(5, WIN), 0);
         due("missed anew", teller.found(5, MISSED), 1);
+        due("value", teller.value(5, 1), 1);
+        teller.back();
+        teller.play(5);
+        due("value anew", teller.value(5, 1), 0);
+        due("threat anew", teller.found(5, THREAT), 1);
         for (int left = 4; left >= 0; left--) {
             due("back", teller.back(), left);
         }
@@ -307,6 +319,11 @@ public final class PromisesTest {
         due("the answer to a threat", teller.best(3, 2), 2);
         due("by 1 the threat is not seen", teller.best(3, 1), 2);
         due("at the start", teller.best(0, 5), 0);
+        GameTeller above = threeByThree(6, 0, 7);
+        due("the answer is not the lowest", above.best(3, 2), 8);
+        due("by 1 it is not seen", above.best(3, 1), 1);
+        due("rows lose: the lowest that makes none", of(3, 3, 2, false, true, 1, 8).best(2, 1), 6);
+        due("cell 0 alone is left", threeByThree(8, 7, 6, 4, 5, 3, 1, 2).best(8, 1), 0);
         due("no such depth", teller.best(0, 0), -1);
         due("no such depth", teller.best(0, 6), -1);
         due("no such n", teller.best(7, 1), -1);
@@ -349,6 +366,8 @@ public final class PromisesTest {
         }
         teller.depth(1);
         due("by 1 no answer is seen", teller.found(4, FORCED), 0);
+        teller.depth(2);
+        due("by 2 it is", teller.found(4, FORCED), 1);
         GameTeller slip = threeByThree(0, 3, 1, 8);
         due("not the forced one", slip.found(4, FORCED), 0);
         GameTeller last = threeByThree(0, 1, 2, 4, 3, 5, 7, 6, 8);
@@ -520,6 +539,7 @@ public final class PromisesTest {
         }
         due("nothing is worth a byte", teller.chosen(200), 0);
         due("no moves", new GameTeller().chosen(200), 0);
+        due("the first move", of(2, 2, 2, false, true, 0).chosen(200), 1);
     }
 
     private static void firstTwelve() {
@@ -593,6 +613,10 @@ public final class PromisesTest {
         due("the first bytes", teller.read(4), 1);
         due("the move that is not whole", teller.look(10), 3);
         due("the tape is empty", teller.look(9), 0);
+        feedText(teller, "b1#x");
+        due("what is behind the first bytes is not asked", teller.read(2), 1);
+        due("to their end", teller.look(10), 2);
+        teller.back();
         due("with numbers", readText(teller, "2.b1 3.c1 4.a2"), 3);
         due("all are set", teller.look(10), 14);
         due("with and without", readText(teller, "b2 6.c2 a3"), 3);
@@ -675,6 +699,7 @@ public final class PromisesTest {
         GameTeller full = of(4, 4, 4, false, false, 0, 2, 1, 3, 6, 4, 7, 5, 8, 10, 9, 11, 14, 12, 15, 13);
         due("the last move", full.look(35), 13);
         due("the last cell", full.look(55), 0);
+        due("the last stone", full.look(53), 1);
         due("none behind it", full.look(36) + full.look(56), -2);
         due("nobody", full.look(6), 3);
         due("the turn at the end", full.look(7), -1);
