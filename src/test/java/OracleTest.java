@@ -3,6 +3,7 @@ import java.util.Random;
 
 /** Random runs of calls, each answered by GameTeller as PlainTeller answers it. */
 public final class OracleTest {
+    private static final int CALLS = 512;
     private static int wrong;
 
     private GameTeller real;
@@ -10,6 +11,7 @@ public final class OracleTest {
     private final Random random;
     private final StringBuilder run = new StringBuilder();
     private boolean failed;
+    private int calls;
 
     private OracleTest(long seed) {
         random = new Random(seed);
@@ -20,6 +22,9 @@ public final class OracleTest {
         int runs = args.length > 1 ? Integer.parseInt(args[1]) : 1500;
         for (long seed = first; seed < first + runs && wrong < 10; seed++) {
             new OracleTest(seed).runCalls(60);
+            if (seed % 10 == 0) {
+                new OracleTest(-seed).runToTheLastCall();
+            }
         }
         System.out.println("OracleTest: " + runs + " runs, " + wrong + " wrong");
         if (wrong != 0) {
@@ -27,17 +32,26 @@ public final class OracleTest {
         }
     }
 
-    private void runCalls(int calls) {
+    private void runCalls(int times) {
         real = new GameTeller();
         plain = new PlainTeller();
         if (random.nextInt(5) > 0) {
             newGame(true);
         }
-        for (int i = 0; i < calls && !failed; i++) {
+        for (int i = 0; i < times && !failed; i++) {
             oneCall();
         }
         for (int what = -2; what < 80 && !failed; what++) {
             due("look(" + what + ")", real.look(what), plain.look(what));
+        }
+    }
+
+    /** As many calls as an object is used for, and no new object in between. */
+    private void runToTheLastCall() {
+        real = new GameTeller();
+        plain = new PlainTeller();
+        for (int i = 0; i < CALLS && calls < CALLS && !failed; i++) {
+            oneCall();
         }
     }
 
@@ -206,6 +220,7 @@ public final class OracleTest {
     }
 
     private void due(String call, int got, int want) {
+        calls++;
         run.append(call).append(" = ").append(want).append('\n');
         if (got != want && !failed) {
             failed = true;

@@ -1,18 +1,5 @@
-import java.nio.charset.StandardCharsets;
-
 /** Each promise of the document, with its edges and with wrong inputs. */
-public final class PromisesTest {
-    private static final int WIN = 0;
-    private static final int THREAT = 1;
-    private static final int FORCED = 2;
-    private static final int SLIP = 3;
-    private static final int MISSED = 4;
-    private static final int TURN = 5;
-
-    private static int checks;
-    private static int wrong;
-    private static String promise;
-
+public final class PromisesTest extends Checks {
     public static void main(String[] args) {
         newObject();
         newGame();
@@ -42,81 +29,11 @@ public final class PromisesTest {
         readingEnds();
         looking();
         refusedCallsChangeNothing();
-        System.out.println("PromisesTest: " + checks + " checks, " + wrong + " wrong");
-        if (wrong != 0) {
-            System.exit(1);
-        }
-    }
-
-    private static void due(String call, int got, int want) {
-        checks++;
-        if (got != want) {
-            wrong++;
-            System.out.println(promise + ": " + call + " answered " + got + ", due is " + want);
-        }
-    }
-
-    private static void due(String call, boolean got, boolean want) {
-        due(call, got ? 1 : 0, want ? 1 : 0);
-    }
-
-    private static void due(String call, String got, String want) {
-        due(call + " '" + got + "' for '" + want + "'", got.equals(want), true);
-    }
-
-    private static GameTeller of(int w, int h, int k, boolean gravity, boolean loses, int... cells) {
-        GameTeller teller = new GameTeller();
-        due("game", teller.game(w, h, k, gravity, loses), true);
-        return playAll(teller, cells);
-    }
-
-    private static GameTeller threeByThree(int... cells) {
-        return playAll(new GameTeller(), cells);
-    }
-
-    private static GameTeller playAll(GameTeller teller, int... cells) {
-        for (int cell : cells) {
-            due("play(" + cell + ")", teller.play(cell), teller.look(5));
-        }
-        due("moves", teller.look(5), cells.length);
-        return teller;
-    }
-
-    private static String wordsOf(GameTeller teller, int n, int level) {
-        return told(teller, teller.words(n, level));
-    }
-
-    private static String taleOf(GameTeller teller, int level) {
-        return told(teller, teller.tale(level));
-    }
-
-    private static String told(GameTeller teller, int bytes) {
-        StringBuilder text = new StringBuilder();
-        for (int i = 0; i < bytes; i++) {
-            text.append((char) teller.octet(i));
-        }
-        due("octet behind the last", teller.octet(bytes), -1);
-        return text.toString();
-    }
-
-    private static int readText(GameTeller teller, String text) {
-        feedText(teller, text);
-        return teller.read(text.length());
-    }
-
-    private static void feedText(GameTeller teller, String text) {
-        byte[] bytes = text.getBytes(StandardCharsets.ISO_8859_1);
-        for (int at = 0; at < bytes.length; at += 20) {
-            int[] five = new int[5];
-            for (int i = at; i < at + 20 && i < bytes.length; i++) {
-                five[(i - at) / 4] |= (bytes[i] & 255) << (24 - (i - at) % 4 * 8);
-            }
-            due("feed", teller.feed(five[0], five[1], five[2], five[3], five[4]), at + 20);
-        }
+        finish("PromisesTest");
     }
 
     private static void newObject() {
-        promise = "1 a new object";
+        about("1 a new object");
         GameTeller teller = new GameTeller();
         int[] first = {3, 3, 3, 0, 0, 0, 0, 0, 3, 0, 0};
         for (int what = 0; what < first.length; what++) {
@@ -130,7 +47,7 @@ public final class PromisesTest {
     }
 
     private static void newGame() {
-        promise = "2 game";
+        about("2 game");
         for (int w = 1; w <= 5; w++) {
             for (int h = 1; h <= 5; h++) {
                 for (int k = 1; k <= 5; k++) {
@@ -157,7 +74,7 @@ public final class PromisesTest {
     }
 
     private static void playing() {
-        promise = "3 play";
+        about("3 play");
         GameTeller teller = new GameTeller();
         due("below the cells", teller.play(-1), -1);
         due("behind the cells", teller.play(9), -1);
@@ -176,7 +93,7 @@ public final class PromisesTest {
     }
 
     private static void rowsOfAllKinds() {
-        promise = "3 play";
+        about("3 play");
         due("a slant row up", threeByThree(0, 1, 4, 2, 8).look(6), 1);
         due("a slant row down", threeByThree(2, 0, 4, 1, 6).look(6), 1);
         due("an upright row", threeByThree(1, 0, 4, 2, 7).look(6), 1);
@@ -198,7 +115,7 @@ public final class PromisesTest {
     }
 
     private static void gravity() {
-        promise = "3 play";
+        about("3 play");
         GameTeller teller = of(3, 2, 3, true, false);
         due("in the air", teller.play(3), -1);
         due("the lowest", teller.play(0), 1);
@@ -210,7 +127,7 @@ public final class PromisesTest {
     }
 
     private static void takingBack() {
-        promise = "4 back";
+        about("4 back");
         GameTeller teller = new GameTeller();
         due("none", teller.back(), -1);
         playAll(teller, 0, 3, 1, 4, 2);
@@ -236,7 +153,7 @@ public final class PromisesTest {
     }
 
     private static void depths() {
-        promise = "5 depth";
+        about("5 depth");
         GameTeller teller = threeByThree(0, 3, 1, 2);
         int[] wrongOnes = {0, 5, -1, Integer.MAX_VALUE, Integer.MIN_VALUE};
         for (int d : wrongOnes) {
@@ -257,7 +174,7 @@ public final class PromisesTest {
     }
 
     private static void weights() {
-        promise = "6 weight";
+        about("6 weight");
         GameTeller teller = new GameTeller();
         due("no such kind", teller.weight(6, 1), false);
         due("no such kind", teller.weight(-1, 1), false);
@@ -276,7 +193,7 @@ public final class PromisesTest {
     }
 
     private static void values() {
-        promise = "7 value";
+        about("7 value");
         GameTeller teller = threeByThree(0, 3, 1, 2, 4, 8);
         int[] byDepth = {0, 1, 1, 1, 1, 1};
         for (int d = 0; d < byDepth.length; d++) {
@@ -310,7 +227,7 @@ public final class PromisesTest {
     }
 
     private static void bestMoves() {
-        promise = "8 best";
+        about("8 best");
         GameTeller teller = threeByThree(0, 3, 1, 2, 4, 8);
         due("the lowest of two wins", teller.best(6, 1), 7);
         due("all lose: the lowest", teller.best(5, 2), 5);
@@ -338,7 +255,7 @@ public final class PromisesTest {
     }
 
     private static void winsAndThreats() {
-        promise = "9 found";
+        about("9 found");
         GameTeller teller = threeByThree(0, 3, 1, 2, 4, 8, 7);
         int[] threats = {0, 0, 1, 0, 2, 1, 0};
         for (int n = 1; n <= 7; n++) {
@@ -359,7 +276,7 @@ public final class PromisesTest {
     }
 
     private static void forcedMoves() {
-        promise = "9 found";
+        about("9 found");
         GameTeller teller = threeByThree(0, 3, 1, 2, 4, 8, 7);
         for (int n = 1; n <= 7; n++) {
             due("FORCED of " + n, teller.found(n, FORCED), n == 4 ? 1 : 0);
@@ -379,7 +296,7 @@ public final class PromisesTest {
     }
 
     private static void slipsAndMissedWins() {
-        promise = "9 found";
+        about("9 found");
         GameTeller teller = threeByThree(0, 3, 1, 8);
         due("a slip from nothing to a loss", teller.found(4, SLIP), 1);
         due("missed nothing", teller.found(4, MISSED), 0);
@@ -400,7 +317,7 @@ public final class PromisesTest {
     }
 
     private static void turns() {
-        promise = "9 found";
+        about("9 found");
         GameTeller teller = threeByThree(0, 3, 1, 2, 4, 8, 7);
         for (int n = 1; n <= 7; n++) {
             due("TURN of " + n, teller.found(n, TURN), n == 4 ? 1 : 0);
@@ -421,7 +338,7 @@ public final class PromisesTest {
     }
 
     private static void leaders() {
-        promise = "10 leader";
+        about("10 leader");
         GameTeller teller = threeByThree(0, 3, 1, 2, 4, 8, 7);
         int[] leaders = {2, 2, 2, 2, 0, 0, 0, 0};
         for (int n = 0; n <= 7; n++) {
@@ -435,7 +352,7 @@ public final class PromisesTest {
     }
 
     private static void plans() {
-        promise = "11 plan";
+        about("11 plan");
         GameTeller teller = new GameTeller();
         due("from nothing", teller.plan(0) * 10 + teller.plan(1), 33);
         playAll(teller, 0, 3, 1);
@@ -457,7 +374,7 @@ public final class PromisesTest {
     }
 
     private static void words() {
-        promise = "12 words";
+        about("12 words");
         GameTeller teller = threeByThree(0, 3, 1, 2, 4, 8, 7);
         due("words", wordsOf(teller, 1, 1), "1.a1");
         due("words", wordsOf(teller, 3, 1), "3.b1+1");
@@ -483,7 +400,7 @@ public final class PromisesTest {
     }
 
     private static void tales() {
-        promise = "13 tale";
+        about("13 tale");
         GameTeller teller = threeByThree(0, 3, 1, 2, 4, 8, 7);
         due("all", taleOf(teller, 1), "1.a1 2.a2 3.b1+1 4.c1!= 5.b2+2 6.c3+1 7.b3#");
         due("level 0", taleOf(teller, 0), "1.a1 2.a2 3.b1+1 4.c1 5.b2+2 6.c3+1 7.b3#");
@@ -498,7 +415,7 @@ public final class PromisesTest {
     }
 
     private static void octets() {
-        promise = "14 octet";
+        about("14 octet");
         GameTeller teller = threeByThree(0, 3);
         due("nothing told", teller.octet(0), -1);
         due("words", teller.words(2, 1), 4);
@@ -519,7 +436,7 @@ public final class PromisesTest {
     }
 
     private static void chosenMoves() {
-        promise = "15 chosen";
+        about("15 chosen");
         GameTeller teller = threeByThree(0, 3, 1, 2, 4, 8, 7);
         // Worths 1 2 2 1 1 of moves 3 to 7, in 6 6 6 6 5 bytes.
         int[][] byRoom = {{0, 0}, {4, 0}, {5, 64}, {6, 8}, {11, 8}, {12, 72}, {13, 24}, {18, 24}, {19, 88},
@@ -543,7 +460,7 @@ public final class PromisesTest {
     }
 
     private static void firstTwelve() {
-        promise = "15 chosen";
+        about("15 chosen");
         GameTeller teller = of(4, 4, 3, false, false, 4, 2, 5, 8, 13, 1, 0, 7, 3, 9, 15, 14, 12, 6, 11);
         for (int n = 1; n <= 15; n++) {
             due("worth of " + n, teller.worth(n) > 0, n >= 3);
@@ -561,7 +478,7 @@ public final class PromisesTest {
     }
 
     private static void worths() {
-        promise = "16 worth";
+        about("16 worth");
         GameTeller teller = threeByThree(0, 3, 1, 2, 4, 8, 7);
         int[] worths = {0, 0, 1, 2, 2, 1, 1};
         for (int n = 1; n <= 7; n++) {
@@ -582,7 +499,7 @@ public final class PromisesTest {
     }
 
     private static void feeding() {
-        promise = "17 feed";
+        about("17 feed");
         GameTeller teller = new GameTeller();
         for (int bytes = 20; bytes <= 120; bytes += 20) {
             due("feed", teller.feed(-1, 0, 0, 0, 0), bytes);
@@ -600,7 +517,7 @@ public final class PromisesTest {
     }
 
     private static void reading() {
-        promise = "18 read";
+        about("18 read");
         GameTeller teller = new GameTeller();
         due("nothing there", teller.read(1), -1);
         due("no bytes", teller.read(0), 0);
@@ -631,7 +548,7 @@ public final class PromisesTest {
     }
 
     private static void readingSigns() {
-        promise = "18 read";
+        about("18 read");
         String[] good = {"a1", "1.a1", "a1#", "a1###", "a1=?!#", "a1+1", "a1+12", "a1+0", "a1+00+9", "a1*a1", "a1*d4",
             "1.a1*d4*a1+99??!!==##", "a1+1*b2", "a1+9#"};
         for (String text : good) {
@@ -651,7 +568,7 @@ public final class PromisesTest {
     }
 
     private static void readingEnds() {
-        promise = "18 read";
+        about("18 read");
         String[] texts = {"a1 b1 a1", "a1 b1  c1", "a1 b1 ", "a1 b1 4.c1", "a1 b1 c1? c2x", "a1 a2 b1 b2 c1 c2", "a1,b1"};
         int[] moves = {2, 2, 2, 2, 3, 5, 0};
         int[] places = {6, 6, 6, 6, 10, 15, 0};
@@ -675,7 +592,7 @@ public final class PromisesTest {
     }
 
     private static void looking() {
-        promise = "19 look";
+        about("19 look");
         GameTeller teller = of(4, 3, 3, true, true, 1, 5, 0);
         int[] state = {4, 3, 3, 1, 1, 3, 0, 1, 3, 0, 0};
         for (int what = 0; what < state.length; what++) {
@@ -706,7 +623,7 @@ public final class PromisesTest {
     }
 
     private static void refusedCallsChangeNothing() {
-        promise = "refused calls";
+        about("refused calls");
         GameTeller teller = threeByThree(0, 3, 1);
         feedText(teller, "a1");
         teller.words(3, 1);
