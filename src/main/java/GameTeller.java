@@ -474,8 +474,16 @@ public final class GameTeller {
             return 0;
         }
 
-        /** Whether the value for who is to move, with the stones 'mine', is at least the goal; no row stands. */
-        boolean reaches(int mine, int other, int depth, int goal) {
+        /** The value by a depth for who is to move, with the stones 'mine'; no row stands. */
+        int valueFor(int mine, int other, int depth) {
+            if (!reaches(mine, other, depth, 0)) {
+                return -1;
+            }
+            return reaches(mine, other, depth, 1) ? 1 : 0;
+        }
+
+        /** Whether that value is at least the goal. */
+        private boolean reaches(int mine, int other, int depth, int goal) {
             int open = board.openCells(mine | other);
             if (open == 0 || depth < 1 || depth > DEEPEST) {
                 return goal <= 0;
@@ -587,8 +595,7 @@ public final class GameTeller {
                 int turn = n & 1;
                 int mine = match.stonesOf(turn, n);
                 int other = match.stonesOf(1 - turn, n);
-                boolean loses = !search.reaches(mine, other, d, 0);
-                values[at] = loses ? -1 : search.reaches(mine, other, d, 1) ? 1 : 0;
+                values[at] = search.valueFor(mine, other, d);
             }
             return values[at];
         }

@@ -96,6 +96,31 @@ public final class CallBoundsTest extends Checks {
                 due("a free cell", teller.look(40 + cell), 2);
             }
         }
+        nothingOfTheOldGame();
+    }
+
+    /** The same cells are set in both games, and everything was asked of the first. */
+    private static void nothingOfTheOldGame() {
+        about("2: nothing of the old GAME is known in the new one");
+        GameTeller teller = threeByThree(0, 3, 1);
+        due("value behind no MOVES, old", teller.value(0, 3), 0);
+        due("value, old", teller.value(3, 4), -1);
+        due("found, old", teller.found(3, THREAT), 1);
+        due("game", teller.game(3, 3, 2, false, true), true);
+        due("value behind no MOVES, new", teller.value(0, 4), of(3, 3, 2, false, true).value(0, 4));
+        due("no MOVE to ask of", teller.found(1, THREAT), NONE);
+        teller.play(0);
+        teller.play(8);
+        due("found, new", teller.found(2, THREAT) * 10 + teller.found(1, THREAT), 0);
+        due("game", teller.game(2, 2, 2, false, false), true);
+        due("value behind no MOVES, rows win", teller.value(0, 3), 1);
+        due("game", teller.game(2, 2, 2, false, true), true);
+        due("value behind no MOVES, rows lose", teller.value(0, 3), -1);
+        playAll(teller, 0);
+        due("found of the first, rows lose", teller.found(1, THREAT), 0);
+        due("game", teller.game(2, 2, 2, false, false), true);
+        playAll(teller, 0);
+        due("found of the first, rows win", teller.found(1, THREAT), 3);
     }
 
     private static void plays() {
@@ -141,6 +166,20 @@ public final class CallBoundsTest extends Checks {
             due("no MOVES", moves(teller), 0);
             due("the first again", teller.play(0), 1);
         }
+        about("4: nothing of the MOVE that was taken back is known");
+        GameTeller teller = threeByThree(0, 3, 1, 4, 8);
+        due("value behind the last", teller.value(5, 1), 1);
+        due("missed by the last", teller.found(5, MISSED), 1);
+        teller.back();
+        due("no such MOVE", teller.found(5, MISSED), NONE);
+        due("no such value", teller.value(5, 1), NO_VALUE);
+        teller.play(5);
+        due("value behind another", teller.value(5, 1), 0);
+        due("threat by another", teller.found(5, THREAT), 1);
+        teller.back();
+        teller.play(2);
+        due("value behind the end", teller.value(5, 1), -1);
+        due("won by another", teller.found(5, WIN) * 10 + teller.found(5, MISSED), 10);
     }
 
     private static void depths() {
@@ -205,9 +244,12 @@ public final class CallBoundsTest extends Checks {
         for (int d = 1; d <= 5; d++) {
             due("all like: cell 0", new GameTeller().best(0, d), 0);
             due("all lose", of(2, 2, 2, false, true, 0, 1).best(2, d), 2);
+            // By 1 the row to come is not seen; from 4 on it is seen that its answer loses too.
+            due("the only one that does not lose", threeByThree(6, 0, 7).best(3, d), d == 2 || d == 3 ? 8 : 1);
             // 7 and 8 win at once; from a depth of 3 on it is seen that 5 leaves both of them open.
             due("the lowest that wins", threeByThree(0, 3, 4, 2, 1, 6).best(6, d), d < 3 ? 7 : 5);
         }
+        due("the lowest that makes no row that loses", of(3, 3, 2, false, true, 1, 8).best(2, 1), 6);
     }
 
     private static void findings(Supplier<GameTeller> game) {

@@ -36,6 +36,7 @@ public final class RefusalsTest extends Checks {
             new View("chosen", false, RefusalsTest::allChosen),
             new View("words and tale", true, RefusalsTest::allWords),
             new View("read", true, RefusalsTest::tapeRead),
+            new View("read in another game", true, RefusalsTest::tapeReadElsewhere),
             new View("feed", true, RefusalsTest::tapeFilled),
             new View("back", true, RefusalsTest::takenBack),
             new View("play", true, RefusalsTest::playedOn),
@@ -52,6 +53,7 @@ public final class RefusalsTest extends Checks {
             allRefusedTogether(state);
         }
         everyCallThatCanBeRefusedWas();
+        everyByteOfTheFullTapeCounts();
         finish("RefusalsTest");
     }
 
@@ -93,6 +95,14 @@ public final class RefusalsTest extends Checks {
             }
             due(call + " is among them", times > 0, true);
         }
+    }
+
+    private static void everyByteOfTheFullTapeCounts() {
+        about("the full tape of these tests");
+        GameTeller teller = of(4, 4, 4, true, false);
+        fillTape(teller);
+        due("all its moves are set", teller.read(120), 16);
+        due("it is read to its end", teller.look(10), 120);
     }
 
     private static GameTeller emptyGame() {
@@ -144,8 +154,14 @@ public final class RefusalsTest extends Checks {
         return teller;
     }
 
+    /** Every byte of the tape counts: on an empty board of 4 by 4 it is read to its end. */
     private static void fillTape(GameTeller teller) {
-        feedText(teller, "a1 b1? c1! d1*a4 " + "a2#=+12 ".repeat(12));
+        StringBuilder text = new StringBuilder();
+        for (int i = 0; i < 16; i++) {
+            text.append(i > 0 ? " " : "").append(nameOf(FULL_BOARD[i], 4)).append("#!?=#", 0, i < 9 ? 5 : 4);
+        }
+        due("a text as long as the tape", text.length(), 120);
+        feedText(teller, text.toString());
         due("a full tape", teller.look(9), 120);
     }
 
@@ -346,6 +362,10 @@ public final class RefusalsTest extends Checks {
 
     private static String tapeRead(GameTeller teller) {
         return teller.read(teller.look(9)) + ": " + allLooks(teller) + allValues(teller);
+    }
+
+    private static String tapeReadElsewhere(GameTeller teller) {
+        return teller.game(4, 4, 4, true, false) + tapeRead(teller);
     }
 
     private static String tapeFilled(GameTeller teller) {

@@ -106,24 +106,39 @@ public final class TermsBoundsTest extends Checks {
         }
     }
 
-    /** Player 0 sets K stones, player 1 one less on the lowest cells that are left, which is too few for a row. */
+    /** Each of the K stones is once the last that is set: a row is one whichever of its cells is filled last. */
     private static void setStones(int w, int h, int k, int set) {
+        int[] cells = new int[k];
+        int left = set;
+        for (int i = 0; i < k; i++) {
+            cells[i] = Integer.numberOfTrailingZeros(left);
+            left &= left - 1;
+        }
+        for (int last = 0; last < k; last++) {
+            setStones(w, h, set, cells, last);
+        }
+    }
+
+    /** Player 0 sets K stones, player 1 one less on the lowest cells that are left, which is too few for a row. */
+    private static void setStones(int w, int h, int set, int[] cells, int last) {
+        int k = cells.length;
+        String stones = Arrays.toString(cells) + " on " + w + " by " + h + ", " + cells[last] + " last";
+        boolean row = isRow(w, h, k, set);
         GameTeller teller = new GameTeller();
         teller.game(w, h, k, false, false);
-        int mine = set;
         int others = ~set;
-        for (int i = 0; i < k; i++) {
-            due("it goes on", teller.look(6), 0);
-            teller.play(Integer.numberOfTrailingZeros(mine));
-            mine &= mine - 1;
-            if (i < k - 1) {
-                teller.play(Integer.numberOfTrailingZeros(others));
-                others &= others - 1;
-            }
+        for (int i = 1; i < k; i++) {
+            teller.play(cells[(last + i) % k]);
+            teller.play(Integer.numberOfTrailingZeros(others));
+            others &= others - 1;
         }
-        String stones = Integer.toBinaryString(set) + " on " + w + " by " + h + " for " + k;
-        due("all set: " + stones, teller.look(5), 2 * k - 1);
-        due("a row: " + stones, teller.look(6), isRow(w, h, k, set) ? 1 : 0);
+        due("it goes on: " + stones, teller.look(6), 0);
+        if (row) {
+            due("one is missing: " + stones, teller.plan(0), 1);
+            due("it wins by 1: " + stones, teller.value(2 * k - 2, 1), 1);
+        }
+        due("the last: " + stones, teller.play(cells[last]), 2 * k - 1);
+        due("a row: " + stones, teller.look(6), row ? 1 : 0);
     }
 
     private static boolean isRow(int w, int h, int k, int set) {
@@ -285,6 +300,13 @@ public final class TermsBoundsTest extends Checks {
             due("depth(" + d + ")", teller.depth(d), true);
             due("the slip that lets a row be made, by " + d, teller.found(4, SLIP), slips[d - 1]);
         }
+        // From the middle, every other cell makes a row of 2, which loses with the third move.
+        GameTeller first = of(3, 3, 2, false, true, 4);
+        int[] firstSlips = {0, 0, 1, 1};
+        for (int d = 4; d >= 1; d--) {
+            due("depth(" + d + ")", first.depth(d), true);
+            due("the slip of the first MOVE, by " + d, first.found(1, SLIP), firstSlips[d - 1]);
+        }
     }
 
     private static void threatOnlyIfGameGoesOn() {
@@ -310,6 +332,8 @@ public final class TermsBoundsTest extends Checks {
         due("ten", ten.found(3, THREAT), 10);
         due("two digits", wordsOf(ten, 3, 0), "3.d4+10*a1");
         due("in the air is none", of(3, 3, 3, true, false, 0, 1, 4, 2).found(3, THREAT), 0);
+        due("where the first stone lies is none", threeByThree(2, 0, 4, 1).found(4, THREAT), 0);
+        due("where the second stone lies is none", threeByThree(0, 2, 1).found(3, THREAT), 0);
     }
 
     private static void forcedOfTwoMovesAtLeast() {
@@ -332,6 +356,15 @@ public final class TermsBoundsTest extends Checks {
         due("not the answer", threeByThree(0, 3, 1, 8).found(4, FORCED), 0);
         due("all lose, it too", threeByThree(0, 3, 1, 2, 4, 8).found(6, FORCED), 0);
         due("none loses", threeByThree(0).found(1, FORCED), 0);
+        GameTeller all = threeByThree(0, 3, 1, 2, 4, 8);
+        int[] depths = {1, 2, 3, 4};
+        for (int d : depths) {
+            all.depth(d);
+            due("all lose, it too, by " + d, all.found(6, FORCED), 0);
+        }
+        GameTeller later = threeByThree(0, 3, 1, 2, 4, 8, 7);
+        due("what came later is not asked", later.found(4, FORCED), 1);
+        due("nor here, where two are not lost", threeByThree(0, 3, 1, 2, 6, 4).found(5, FORCED), 0);
         GameTeller losing = of(2, 3, 2, false, true, 0, 5, 4);
         losing.depth(1);
         due("by D - 1 of 0 a game that ends is seen", losing.found(3, FORCED), 1);
@@ -496,6 +529,7 @@ public final class TermsBoundsTest extends Checks {
         due("to the byte for all", fiveWithWorth().chosen(33), 0b1111100);
         due("the largest room", fiveWithWorth().chosen(200), 0b1111100);
         due("no MOVES", new GameTeller().chosen(0) + new GameTeller().chosen(200), 0);
+        due("the first MOVE", of(2, 2, 2, false, false, 0).chosen(200), 1);
     }
 
     private static void firstTwelveWithWorth() {
