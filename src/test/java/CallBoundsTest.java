@@ -243,6 +243,7 @@ public final class CallBoundsTest extends Checks {
         about("8: the lowest CELL");
         for (int d = 1; d <= 5; d++) {
             due("all like: cell 0", new GameTeller().best(0, d), 0);
+            due("cell 0 alone is left", threeByThree(8, 7, 6, 4, 5, 3, 1, 2).best(8, d), 0);
             due("all lose", of(2, 2, 2, false, true, 0, 1).best(2, d), 2);
             // By 1 the row to come is not seen; from 4 on it is seen that its answer loses too.
             due("the only one that does not lose", threeByThree(6, 0, 7).best(3, d), d == 2 || d == 3 ? 8 : 1);

@@ -246,6 +246,23 @@ public final class TermsBoundsTest extends Checks {
         due("is valued", threeByThree(cells).value(9, 0), -1);
         due("is seen ahead", threeByThree(cells).value(8, 1), 1);
         due("is seen ahead, if it loses", of(3, 3, 3, false, true, cells).value(8, 1), -1);
+        about("a ROW by the sixteenth MOVE");
+        int[] sixteen = {9, 7, 6, 2, 13, 15, 0, 12, 14, 10, 8, 11, 4, 5, 1, 3};
+        GameTeller won = of(4, 4, 4, false, false, sixteen);
+        due("player 1 won", won.look(6), 2);
+        due("is found", won.found(16, WIN), 1);
+        due("is told", wordsOf(won, 16, 1), "16.d1#");
+        due("has worth", won.worth(16), 1);
+        due("leads", won.leader(16), 1);
+        for (int what = 0; what < 6; what++) {
+            won.weight(what, what == WIN ? 99 : 0);
+        }
+        due("is chosen to the byte", won.chosen(6), 1 << 15);
+        due("is not chosen in a byte less", won.chosen(5), 0);
+        GameTeller lost = of(4, 4, 4, false, true, sixteen);
+        due("player 1 lost", lost.look(6), 1);
+        due("is no WIN", lost.found(16, WIN), 0);
+        due("is valued", lost.value(16, 0) * 10 + lost.leader(16), 10);
     }
 
     private static void valueOfEndedGame() {
@@ -361,6 +378,12 @@ public final class TermsBoundsTest extends Checks {
         for (int d : depths) {
             all.depth(d);
             due("all lose, it too, by " + d, all.found(6, FORCED), 0);
+        }
+        GameTeller two = threeByThree(8, 7, 6, 4, 5, 3, 1, 2);
+        int[] forcedBy = {0, 1, 1, 1};
+        for (int d : depths) {
+            two.depth(d);
+            due("cell 0 was the only other one, by " + d, two.found(8, FORCED), forcedBy[d - 1]);
         }
         GameTeller later = threeByThree(0, 3, 1, 2, 4, 8, 7);
         due("what came later is not asked", later.found(4, FORCED), 1);
