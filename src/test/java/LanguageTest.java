@@ -23,6 +23,9 @@ public final class LanguageTest {
     private static final String[] FORBIDDEN = {"\\bthrow\\b", "\\btry\\b", "\\bcatch\\b", "\\bsynchronized\\b",
         "\\bassert\\b", "->", "::", "\\bSystem\\.(?!arraycopy)", "\\bstatic\\s*\\{", "\\bObject\\b", "\\bnull\\b",
         "Exact\\b", "^package\\b"};
+    /** Of what rule 4 allows, what the class has had a use for; a name more is looked up there first. */
+    private static final Set<String> LIBRARY = Set.of("Math.min", "Math.max", "Integer.bitCount", "Arrays.fill");
+    private static final int LONGEST_METHOD = 60;
     private static int wrong;
 
     public static void main(String[] args) throws IOException {
@@ -103,11 +106,37 @@ public final class LanguageTest {
             expect(Set.of("java.util.Arrays", "java.util.ArrayList", "java.util.List").contains(imports.group(1)),
                     imports.group() + " is allowed");
         }
+        checkLibrary(code);
+        checkLengths(source);
         // Only constructors make objects, and all of them are named here.
         Matcher made = Pattern.compile("(\\w+ = )?new (\\w+)").matcher(code);
         while (made.find()) {
             expect(made.group(1) != null, "'" + made.group() + "' stands in a constructor");
         }
+    }
+
+    private static void checkLibrary(String code) {
+        Set<String> own = new TreeSet<>();
+        for (Class<?> inside : GameTeller.class.getDeclaredClasses()) {
+            own.add(inside.getSimpleName());
+        }
+        Matcher calls = Pattern.compile("\\b([A-Z]\\w*)\\.(\\w+)\\(").matcher(code);
+        while (calls.find()) {
+            String call = calls.group(1) + "." + calls.group(2);
+            expect(own.contains(calls.group(1)) || LIBRARY.contains(call), call + " is allowed");
+        }
+    }
+
+    private static void checkLengths(String source) {
+        Pattern method = Pattern.compile("(?m)^( {4}| {8})(?! )[\\w ]*\\w\\([^)]*\\) \\{\\n(?s:(.*?))^\\1\\}");
+        Matcher methods = method.matcher(source);
+        int seen = 0;
+        while (methods.find()) {
+            seen++;
+            long lines = methods.group(2).lines().count();
+            expect(lines <= LONGEST_METHOD, methods.group().lines().findFirst().orElse("") + " is short");
+        }
+        expect(seen > 60, "methods are seen: " + seen);
     }
 
     /** What one object's dearest calls make, all in all: nothing beyond what the machine itself may need. */
